@@ -386,17 +386,19 @@ public final class TracePacks {
             return NONE;
         }
 
+        /** Puts the value first; those ahead of its old place go one place back. */
         void use(int value) {
-            int number = numberOfValue(value);
-            if (number == NONE) {
-                // When there are eight already this adds none, and the oldest one is written over.
-                values.add(value);
-                number = values.size() - 1;
+            int carried = value;
+            for (int i = 0; i < values.size(); i++) {
+                int here = values.at(i);
+                values.set(i, carried);
+                if (here == value) {
+                    return;
+                }
+                carried = here;
             }
-            for (int i = number; i > 0; i--) {
-                values.set(i, values.at(i - 1));
-            }
-            values.set(0, value);
+            // With eight there already this adds none: the oldest one is forgotten.
+            values.add(carried);
         }
     }
 
@@ -884,7 +886,6 @@ public final class TracePacks {
 
         private void clear() {
             rows.clear();
-            passedOver = 0;
             blocks = 0;
             broken = 0;
             notKept = 0;

@@ -37,8 +37,9 @@ public final class ChooseTest {
                 if (want > 0) {
                     check.equal(what + ", first kind", x.kept(0, 0), Integer.numberOfTrailingZeros(kinds));
                     check.equal(what + ", first thread", x.kept(0, 3), Integer.numberOfTrailingZeros(threads));
-                    check.equal(what + ", last thread", x.kept(want - 1, 3), 31 - Integer.numberOfLeadingZeros(threads));
-                    check.equal(what + ", last one's block", x.kept(want - 1, 5), x.kept(want - 1, 3));
+                    int lastThread = 31 - Integer.numberOfLeadingZeros(threads);
+                    check.equal(what + ", last thread", x.kept(want - 1, 3), lastThread);
+                    check.equal(what + ", last one's block", x.kept(want - 1, 5), lastThread);
                 }
             }
         }

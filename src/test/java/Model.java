@@ -264,12 +264,12 @@ final class Model {
         right(told >= 1 && told <= 100);
         List<int[]> decoded = new ArrayList<>();
         while (bytes.hasNext()) {
+            int before = decoded.size();
             decodeRow(bytes, decoded, time);
-            for (int[] r : decoded) {
-                if (r.length == 3) {
-                    time = r[0] == 4 ? r[1] : time;
-                    decoded.set(decoded.indexOf(r), new int[] {r[0], r[1], r[2], itsThread, time});
-                }
+            for (int i = before; i < decoded.size(); i++) {
+                int[] r = decoded.get(i);
+                time = r[0] == 4 ? r[1] : time;
+                decoded.set(i, new int[] {r[0], r[1], r[2], itsThread, time});
             }
         }
         right(decoded.size() == told);

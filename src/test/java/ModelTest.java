@@ -1,3 +1,4 @@
+import java.util.Arrays;
 import java.util.Random;
 
 /** Runs of up to 512 calls by chance, from fixed seeds, on an object and on the model: all answers are the same. */
@@ -162,7 +163,7 @@ public final class ModelTest {
         int told = random.nextInt(25) == 0 ? rows + random.nextInt(3) - 1 : rows;
         int blockTime = random.nextInt(20) == 0 ? edge() : random.nextInt(300);
         int itsThread = random.nextInt(40) == 0 ? random.nextInt(6) : random.nextInt(4);
-        for (int b : Blocks.block(itsThread, blockTime, told & 255, java.util.Arrays.copyOf(bytes, length))) {
+        for (int b : Blocks.block(itsThread, blockTime, told & 255, Arrays.copyOf(bytes, length))) {
             if (calls < CALLS) {
                 same("put", b);
             }
@@ -185,8 +186,8 @@ public final class ModelTest {
         String want = answer(() -> ofModel(name, v));
         if (!got.equals(want)) {
             wrong = true;
-            System.out.println("run " + run + ", call " + calls + ": " + name + java.util.Arrays.toString(v) + " answered "
-                + got + ", due is " + want);
+            System.out.println("run " + run + ", call " + calls + ": " + name + Arrays.toString(v)
+                + " answered " + got + ", due is " + want);
         }
     }
 

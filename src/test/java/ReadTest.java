@@ -49,6 +49,16 @@ public final class ReadTest {
         broken(what, Blocks.block(1, 5, rows, rowBytes));
     }
 
+    /** Broken by itself, and behind two branches as well, whether it is counted as a row or not. */
+    private void brokenRow(String what, int... rowBytes) {
+        brokenRows(what, 1, rowBytes);
+        int[] behind = new int[rowBytes.length + 1];
+        behind[0] = 6;
+        System.arraycopy(rowBytes, 0, behind, 1, rowBytes.length);
+        brokenRows(what + ", behind two branches", 3, behind);
+        brokenRows(what + ", behind two branches and not counted", 2, behind);
+    }
+
     private void from() {
         TracePacks x = new TracePacks();
         x.row(0, 1, 0);
@@ -107,12 +117,36 @@ public final class ReadTest {
                 broken("125 and " + v, bytes);
             }
         }
+        wrongShieldsWithARightSum();
         int[] good = Blocks.block(0, 0, 1, 3);
         int[] open = Arrays.copyOf(good, good.length + 1);
         open[good.length] = 125;
         broken("a shield with nothing behind it", open);
         // 94 and 93 by themselves are bytes like others.
         rightRows("94 and 93", 1, 104, 94, 93, 94, 93);
+    }
+
+    /** The sum is right if the shield is passed over, or if the byte behind it is what 94 and 93 are to 126 and 125. */
+    private void wrongShieldsWithARightSum() {
+        for (int v = 0; v < 256; v++) {
+            if (v >= 93 && v <= 94 || v >= 125 && v <= 126) {
+                continue;
+            }
+            int[] passed = Blocks.block(0, 0, 1, 104, v, 0, 0, 0);
+            broken("125 passed over ahead of " + v, withByte(passed, 8, 125));
+            int other = v ^ 32;
+            int[] changed = Blocks.block(0, 0, 1, 104, other, 0, 0, 0);
+            changed[8] = v;
+            broken("125 and " + v + " for " + other, withByte(changed, 8, 125));
+        }
+    }
+
+    private static int[] withByte(int[] bytes, int at, int value) {
+        int[] more = new int[bytes.length + 1];
+        System.arraycopy(bytes, 0, more, 0, at);
+        more[at] = value;
+        System.arraycopy(bytes, at, more, at + 1, bytes.length - at);
+        return more;
     }
 
     private void sums() {
@@ -177,9 +211,9 @@ public final class ReadTest {
             brokenRows("five bits " + bits + ", one row less told", rows - 1, bits);
             brokenRows("five bits " + bits + ", one row more told", rows + 1, bits);
         }
-        brokenRows("five bits 0", 1, 0);
-        brokenRows("five bits 1: no branch", 1, 1);
-        brokenRows("no branch, with a row behind it", 1, 1, 3);
+        brokenRow("five bits 0", 0);
+        brokenRow("five bits 1: no branch", 1);
+        brokenRow("no branch, with a row behind it", 1, 3);
         int[] hundred = new int[25];
         Arrays.fill(hundred, 16);
         rightRows("100 branches", 100, hundred);
@@ -198,44 +232,44 @@ public final class ReadTest {
         rightRows("one byte", 1, 32, 127);
         rightRows("five bytes", 1, 32, 255, 255, 255, 255, 15);
         rightRows("five bytes, least", 1, 32, 128, 128, 128, 128, 1);
-        brokenRows("the fifth one is 16", 1, 32, 255, 255, 255, 255, 16);
-        brokenRows("the fifth one goes on", 1, 32, 128, 128, 128, 128, 129);
-        brokenRows("six bytes", 1, 32, 128, 128, 128, 128, 128, 1);
-        brokenRows("the last of two is 0", 1, 32, 128, 0);
-        brokenRows("the last of five is 0", 1, 32, 129, 128, 128, 128, 0);
+        brokenRow("the fifth one is 16", 32, 255, 255, 255, 255, 16);
+        brokenRow("the fifth one goes on", 32, 128, 128, 128, 128, 129);
+        brokenRow("six bytes", 32, 128, 128, 128, 128, 128, 1);
+        brokenRow("the last of two is 0", 32, 128, 0);
+        brokenRow("the last of five is 0", 32, 129, 128, 128, 128, 0);
         rightRows("0 alone", 1, 32, 0);
-        brokenRows("no number", 1, 32);
-        brokenRows("a number that does not end", 1, 32, 128);
-        brokenRows("no number of a load", 1, 65);
-        brokenRows("no number of a store", 1, 112);
-        brokenRows("no number of a time", 1, 128);
-        brokenRows("the last of a load's two is 0", 1, 65, 255, 0);
-        brokenRows("the last of a store's two is 0", 1, 120, 255, 0, 1, 2, 3, 4);
-        brokenRows("the last of a time's two is 0", 1, 128, 255, 0);
+        brokenRow("no number", 32);
+        brokenRow("a number that does not end", 32, 128);
+        brokenRow("no number of a load", 65);
+        brokenRow("no number of a store", 112);
+        brokenRow("no number of a time", 128);
+        brokenRow("the last of a load's two is 0", 65, 255, 0);
+        brokenRow("the last of a store's two is 0", 120, 255, 0, 1, 2, 3, 4);
+        brokenRow("the last of a time's two is 0", 128, 255, 0);
     }
 
     private void fiveBits() {
         for (int bits = 1; bits < 32; bits++) {
-            brokenRows("a jump with " + bits, 1, 32 + bits, 2);
-            brokenRows("a jump with " + bits + " alone", 1, 32 + bits);
-            brokenRows("a time with " + bits, 1, 128 + bits, 2);
+            brokenRow("a jump with " + bits, 32 + bits, 2);
+            brokenRow("a jump with " + bits + " alone", 32 + bits);
+            brokenRow("a time with " + bits, 128 + bits, 2);
             if (bits > 1) {
-                brokenRows("a load with " + bits, 1, 64 + bits);
-                brokenRows("a load with " + bits + " and a number", 1, 64 + bits, 2);
+                brokenRow("a load with " + bits, 64 + bits);
+                brokenRow("a load with " + bits + " and a number", 64 + bits, 2);
             }
         }
         for (int kind = 5; kind < 8; kind++) {
             for (int bits = 0; bits < 32; bits++) {
-                brokenRows("kind " + kind + ", five bits " + bits, 1, 32 * kind + bits);
-                brokenRows("kind " + kind + ", five bits " + bits + " and a number", 1, 32 * kind + bits, 2);
+                brokenRow("kind " + kind + ", five bits " + bits, 32 * kind + bits);
+                brokenRow("kind " + kind + ", five bits " + bits + " and a number", 32 * kind + bits, 2);
             }
         }
     }
 
     private void times() {
         rightRows("up to the latest time", 1, 128, 250, 255, 255, 255, 7);
-        brokenRows("beyond it", 1, 128, 251, 255, 255, 255, 7);
-        brokenRows("far beyond it", 1, 128, 255, 255, 255, 255, 15);
+        brokenRow("beyond it", 128, 251, 255, 255, 255, 7);
+        brokenRow("far beyond it", 128, 255, 255, 255, 255, 15);
         rightRows("to the latest time, and no further", 2, 128, 250, 255, 255, 255, 7, 128, 0);
         brokenRows("one step more", 2, 128, 250, 255, 255, 255, 7, 128, 1);
         right("the latest from the beginning", 1, Blocks.block(0, MOST, 1, 128, 0));
@@ -243,7 +277,7 @@ public final class ReadTest {
     }
 
     private void values() {
-        brokenRows("no value is there yet", 1, 96);
+        brokenRow("no value is there yet", 96);
         rightRows("the one that is there", 2, 104, 0, 0, 0, 1, 96);
         brokenRows("the second one of one", 2, 104, 0, 0, 0, 1, 97);
         brokenRows("the second one of one that came twice", 3, 104, 0, 0, 0, 1, 104, 0, 0, 0, 1, 97);
@@ -263,10 +297,10 @@ public final class ReadTest {
                 brokenRows("value number " + number, 10, bytes);
             }
         }
-        brokenRows("number 9 with a value", 1, 105, 0, 0, 0, 1);
-        brokenRows("number 15 with a place and a value", 1, 127, 2, 0, 0, 0, 1);
-        brokenRows("three bytes of a value", 1, 104, 0, 0, 0);
-        brokenRows("none of a value", 1, 120, 2);
+        brokenRow("number 9 with a value", 105, 0, 0, 0, 1);
+        brokenRow("number 15 with a place and a value", 127, 2, 0, 0, 0, 1);
+        brokenRow("three bytes of a value", 104, 0, 0, 0);
+        brokenRow("none of a value", 120, 2);
     }
 
     private void otherWays() {
