@@ -1,7 +1,7 @@
 import java.util.ArrayList;
 import java.util.List;
 
-/** Makes blocks by hand: right in their shields and sum, whatever the inside says. */
+/** Makes packs: of rows, or of blocks made by hand, right in their shields and sum whatever the inside says. */
 final class Blocks {
     private Blocks() {
     }
@@ -20,20 +20,25 @@ final class Blocks {
 
     /** The mark and the shielded inside with its sum. */
     static int[] closed(int... inside) {
+        int[] sum = sum(inside);
+        List<Integer> bytes = new ArrayList<>();
+        bytes.add(126);
+        for (int b : inside) {
+            addShielded(bytes, b);
+        }
+        addShielded(bytes, sum[0]);
+        addShielded(bytes, sum[1]);
+        return bytes.stream().mapToInt(Integer::intValue).toArray();
+    }
+
+    static int[] sum(int... inside) {
         int p = 0;
         int q = 0;
         for (int b : inside) {
             p = (p + b) % 255;
             q = (q + p) % 255;
         }
-        List<Integer> bytes = new ArrayList<>();
-        bytes.add(126);
-        for (int b : inside) {
-            addShielded(bytes, b);
-        }
-        addShielded(bytes, p);
-        addShielded(bytes, q);
-        return bytes.stream().mapToInt(Integer::intValue).toArray();
+        return new int[] {p, q};
     }
 
     private static void addShielded(List<Integer> bytes, int b) {
@@ -49,6 +54,26 @@ final class Blocks {
         return closed(inside(thread, time, rows, rowBytes));
     }
 
+    static int[] joined(int[]... parts) {
+        List<Integer> bytes = new ArrayList<>();
+        for (int[] part : parts) {
+            for (int b : part) {
+                bytes.add(b);
+            }
+        }
+        return bytes.stream().mapToInt(Integer::intValue).toArray();
+    }
+
+    /** STOREs of the values 0, 1 and so on, each told anew, all at place 0. */
+    static int[] storesOfNewValues(int stores) {
+        int[] bytes = new int[5 * stores];
+        for (int i = 0; i < stores; i++) {
+            bytes[5 * i] = 104;
+            bytes[5 * i + 4] = i;
+        }
+        return bytes;
+    }
+
     static void putAll(TracePacks x, int... bytes) {
         for (int b : bytes) {
             x.put(b);
@@ -59,6 +84,27 @@ final class Blocks {
     static TracePacks packOf(int... bytes) {
         TracePacks x = new TracePacks();
         putAll(x, bytes);
+        return x;
+    }
+
+    /** Rows of the thread that is the present one: kind, a, and a STORE's b. */
+    static void write(TracePacks x, int[]... rows) {
+        for (int[] r : rows) {
+            x.row(r[0], r[1], r.length > 2 ? r[2] : 0);
+        }
+    }
+
+    static void writeMany(TracePacks x, int howMany, int kind, int a) {
+        for (int i = 0; i < howMany; i++) {
+            x.row(kind, a, 0);
+        }
+    }
+
+    /** A new object whose pack is one block of these rows. */
+    static TracePacks written(int[]... rows) {
+        TracePacks x = new TracePacks();
+        write(x, rows);
+        x.mark();
         return x;
     }
 }

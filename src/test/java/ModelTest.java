@@ -63,7 +63,7 @@ public final class ModelTest {
             } else if (dice < 78) {
                 same("put", random.nextInt(3) == 0 ? edge() : random.nextBoolean() ? 126 : random.nextInt(256));
             } else if (dice < 79) {
-                same("cut", random.nextInt(4) == 0 ? edge() : Math.max(0, x.count(0) - random.nextInt(30)));
+                same("cut", random.nextInt(4) == 0 ? edge() : Math.max(0, model.count(0) - random.nextInt(30)));
             } else if (dice < 82) {
                 same("choose", random.nextInt(8) == 0 ? edge() : 31 & ~(1 << random.nextInt(8)),
                     random.nextInt(8) == 0 ? edge() : 15 & ~(1 << random.nextInt(8)));
@@ -107,12 +107,12 @@ public final class ModelTest {
     }
 
     private int place() {
-        int size = x.count(0);
+        int size = model.count(0);
         return size == 0 || random.nextInt(12) == 0 ? size + random.nextInt(3) - 1 : random.nextInt(size);
     }
 
     private int keptPlace() {
-        int size = x.count(7);
+        int size = model.count(7);
         return size == 0 || random.nextInt(12) == 0 ? size + random.nextInt(3) - 1 : random.nextInt(size);
     }
 

@@ -1,158 +1,130 @@
-/** Promise 3, and how rows are written as bytes. */
+/** Promise 3; the rows' bytes are in TermRowsTest, that the pack has no room is in TermPackTest. */
 public final class RowTest {
     private static final int MOST = Integer.MAX_VALUE;
     private static final int LEAST = Integer.MIN_VALUE;
 
+    private final Check check = new Check();
+
     public static void main(String[] args) {
-        Check check = new Check();
-        wrongRows(check);
-        wrongRowsDoNothing(check);
-        hundredRows(check);
-        branches(check);
-        jumps(check);
-        loads(check);
-        stores(check);
-        lastEight(check);
-        times(check);
-        nothingGoesOverToTheNextBlock(check);
-        check.end();
+        RowTest test = new RowTest();
+        test.howManyTheOpenBlockHas();
+        test.leastAndMost();
+        test.kinds();
+        test.outcomes();
+        test.times();
+        test.bs();
+        test.refusedOnesDoNothing();
+        test.check.end();
     }
 
-    private static void wrongRows(Check check) {
-        TracePacks x = new TracePacks();
-        int[][] wrong = {{-1, 0, 0}, {5, 0, 0}, {MOST, 0, 0}, {LEAST, 0, 0}, {0, 2, 0}, {0, -1, 0}, {0, LEAST, 0},
-            {0, 1, 1}, {1, 0, 1}, {2, 0, -1}, {4, 0, 1}, {4, -1, 0}, {4, LEAST, 0}, {4, 5, LEAST}};
-        for (int[] w : wrong) {
-            check.argument("row(" + w[0] + ", " + w[1] + ", " + w[2] + ")", () -> x.row(w[0], w[1], w[2]));
-        }
-        check.equal("no row came", x.count(2), 0);
-        check.equal("no block is open", x.count(1), 0);
-        int[][] right = {{0, 0, 0}, {0, 1, 0}, {1, LEAST, 0}, {1, MOST, 0}, {2, LEAST, 0}, {3, MOST, LEAST},
-            {3, -1, -1}, {4, 0, 0}, {4, MOST, 0}, {4, MOST, 0}};
-        for (int i = 0; i < right.length; i++) {
-            check.equal("right row " + i, x.row(right[i][0], right[i][1], right[i][2]), i + 1);
-        }
-        check.argument("below the latest time", () -> x.row(4, MOST - 1, 0));
-    }
-
-    private static void wrongRowsDoNothing(Check check) {
-        TracePacks x = new TracePacks();
-        x.row(4, 9, 0);
-        x.thread(1);
-        check.argument("a wrong row of another thread", () -> x.row(4, 20, 1));
-        check.equal("the block is open still", x.count(1), 1);
-        check.equal("none was closed", x.count(3), 0);
-        check.equal("the time did not go on", x.row(4, 0, 0), 1);
-        check.equal("now one was closed", x.count(3), 1);
-    }
-
-    private static void hundredRows(Check check) {
+    private void howManyTheOpenBlockHas() {
+        check.about("A row: how many the open block has with it.");
         TracePacks x = new TracePacks();
         for (int i = 1; i <= 100; i++) {
             check.equal("row " + i, x.row(2, 0, 0), i);
         }
-        check.equal("100 rows stay open", x.count(0), 0);
         check.equal("row 101", x.row(2, 0, 0), 1);
-        // p is (100 + 100 * 64) % 255, which is 125: one byte more for its shield.
-        check.equal("100 rows, closed", x.count(0), 1 + 6 + 100 + 2 + 1);
-        check.equal("byte of how many rows", x.byteAt(6), 100);
-        check.equal("rows so far", x.count(2), 101);
+        check.equal("row 102", x.row(2, 0, 0), 2);
+        x.mark();
+        check.equal("behind mark()", x.row(2, 0, 0), 1);
+        x.thread(1);
+        check.equal("of another thread", x.row(2, 0, 0), 1);
+        check.equal("of the same one", x.row(2, 0, 0), 2);
+        check.equal("rows so far", x.count(2), 105);
     }
 
-    /** Writes the rows into one block of a new object, and looks at the bytes of its rows. */
-    private static void written(Check check, String what, int[][] rows, int... rowBytes) {
+    private void leastAndMost() {
         TracePacks x = new TracePacks();
-        for (int[] r : rows) {
-            x.row(r[0], r[1], r.length > 2 ? r[2] : 0);
+        int[][] rows = {{0, 0, 0}, {0, 1, 0}, {1, LEAST, 0}, {1, MOST, 0}, {1, -1, 0}, {2, LEAST, 0}, {2, MOST, 0},
+            {3, MOST, LEAST}, {3, LEAST, MOST}, {3, -1, -1}, {4, 0, 0}, {4, MOST, 0}, {4, MOST, 0}};
+        for (int i = 0; i < rows.length; i++) {
+            check.equal("row " + i, x.row(rows[i][0], rows[i][1], rows[i][2]), i + 1);
         }
         x.mark();
-        check.bytes(what, x, 0, Blocks.block(0, 0, rows.length, rowBytes));
-    }
-
-    private static void branches(Check check) {
-        written(check, "one branch", new int[][] {{0, 1}}, 3);
-        written(check, "one not taken", new int[][] {{0, 0}}, 2);
-        written(check, "two", new int[][] {{0, 1}, {0, 0}}, 6);
-        written(check, "three", new int[][] {{0, 0}, {0, 0}, {0, 1}}, 9);
-        written(check, "four", new int[][] {{0, 1}, {0, 0}, {0, 1}, {0, 1}}, 27);
-        written(check, "five", new int[][] {{0, 1}, {0, 1}, {0, 1}, {0, 1}, {0, 0}}, 31, 2);
-        written(check, "eight", new int[][] {{0, 0}, {0, 0}, {0, 0}, {0, 0}, {0, 1}, {0, 0}, {0, 0}, {0, 0}}, 16, 24);
-        written(check, "a row between", new int[][] {{0, 1}, {0, 1}, {2, 0}, {0, 1}, {0, 0}, {0, 0}}, 7, 64, 12);
-    }
-
-    private static void jumps(Check check) {
-        written(check, "to 0", new int[][] {{1, 0}}, 32, 0);
-        written(check, "by differences", new int[][] {{1, 1000}, {1, 996}, {1, 996}}, 32, 208, 15, 32, 7, 32, 0);
-        written(check, "one byte or two", new int[][] {{1, 63}, {1, -1}, {1, 63}, {1, -2}},
-            32, 126, 32, 127, 32, 128, 1, 32, 129, 1);
-        written(check, "least", new int[][] {{1, LEAST}}, 32, 255, 255, 255, 255, 15);
-        written(check, "most", new int[][] {{1, MOST}}, 32, 254, 255, 255, 255, 15);
-        written(check, "32 bits round", new int[][] {{1, MOST}, {1, LEAST}}, 32, 254, 255, 255, 255, 15, 32, 2);
-    }
-
-    private static void loads(Check check) {
-        written(check, "stride 0 at first", new int[][] {{2, 0}, {2, 0}}, 64, 64);
-        written(check, "strides", new int[][] {{2, 64}, {2, 128}, {2, 192}, {2, 191}, {2, 190}, {2, 190}, {2, 190}},
-            65, 128, 1, 64, 64, 65, 1, 64, 65, 0, 64);
-        written(check, "strides over the edge", new int[][] {{2, 1 << 30}, {2, LEAST}, {2, -(1 << 30)}, {2, 0}},
-            65, 128, 128, 128, 128, 8, 64, 64, 64);
-        written(check, "stores are apart", new int[][] {{2, 4}, {3, 1, 0}, {2, 8}}, 65, 8, 120, 2, 0, 0, 0, 0, 64);
-    }
-
-    private static void stores(Check check) {
-        written(check, "stride 0, a new value", new int[][] {{3, 0, 0}}, 104, 0, 0, 0, 0);
-        written(check, "values", new int[][] {{3, 8, 7}, {3, 16, 9}, {3, 24, 7}, {3, 24, 7}},
-            120, 16, 0, 0, 0, 7, 104, 0, 0, 0, 9, 97, 112, 0);
-        written(check, "negative values", new int[][] {{3, 0, -1}, {3, 0, LEAST}, {3, 0, 0x01020304}},
-            104, 255, 255, 255, 255, 104, 128, 0, 0, 0, 104, 1, 2, 3, 4);
-        written(check, "difference first, then the value", new int[][] {{3, -1, 0x0a0b0c0d}}, 120, 1, 10, 11, 12, 13);
-    }
-
-    private static void lastEight(Check check) {
-        int[][] rows = new int[12][];
-        for (int i = 0; i < 9; i++) {
-            rows[i] = new int[] {3, 0, i};
+        check.equal("read again", x.read(0), rows.length);
+        for (int i = 0; i < rows.length; i++) {
+            for (int what = 0; what < 3; what++) {
+                check.equal("row " + i + ", " + what, x.kept(i, what), rows[i][what]);
+            }
         }
-        rows[9] = new int[] {3, 0, 1};
-        rows[10] = new int[] {3, 0, 2};
-        rows[11] = new int[] {3, 0, 0};
-        int[] bytes = new int[9 * 5 + 2 + 5];
-        for (int i = 0; i < 9; i++) {
-            bytes[5 * i] = 104;
-            bytes[5 * i + 4] = i;
-        }
-        bytes[45] = 96 + 7;
-        bytes[46] = 96 + 7;
-        bytes[47] = 104;
-        written(check, "0 is forgotten, 1 and 2 are last", rows, bytes);
-        written(check, "one that was used is the latest", new int[][] {{3, 0, 5}, {3, 0, 6}, {3, 0, 7}, {3, 0, 5},
-            {3, 0, 7}, {3, 0, 6}, {3, 0, 6}}, 104, 0, 0, 0, 5, 104, 0, 0, 0, 6, 104, 0, 0, 0, 7, 98, 97, 98, 96);
     }
 
-    private static void times(Check check) {
-        written(check, "steps", new int[][] {{4, 500}, {4, 500}, {4, 627}, {4, 755}},
-            128, 244, 3, 128, 0, 128, 127, 128, 128, 1);
-        written(check, "the latest", new int[][] {{4, MOST}}, 128, 255, 255, 255, 255, 7);
+    private void refused(int kind, int a, int b) {
         TracePacks x = new TracePacks();
-        x.row(4, 0x7d7e0102, 0);
-        int from = x.mark();
-        x.row(4, 0x7d7e0103, 0);
+        check.argument("row(" + kind + ", " + a + ", " + b + ")", () -> x.row(kind, a, b));
+        check.counts("nothing is done by row(" + kind + ", " + a + ", " + b + ")", x, 0, 0, 0, 0);
+    }
+
+    private void kinds() {
+        check.about("IllegalArgumentException, when the kind is not 0 .. 4");
+        refused(-1, 0, 0);
+        refused(5, 0, 0);
+        refused(7, 1, 0);
+        refused(MOST, 0, 0);
+        refused(LEAST, 0, 0);
+    }
+
+    private void outcomes() {
+        check.about("a of a BRANCH not 0 or 1");
+        refused(0, 2, 0);
+        refused(0, -1, 0);
+        refused(0, MOST, 0);
+        refused(0, LEAST, 0);
+    }
+
+    private void times() {
+        check.about("a of a TIME below the thread's time");
+        refused(4, -1, 0);
+        refused(4, LEAST, 0);
+        TracePacks x = new TracePacks();
+        x.row(4, 10, 0);
+        check.argument("9", () -> x.row(4, 9, 0));
+        check.equal("10", x.row(4, 10, 0), 2);
         x.mark();
-        check.bytes("begins at the thread's time", x, from, Blocks.block(0, 0x7d7e0102, 1, 128, 1));
+        check.argument("9 in the next block", () -> x.row(4, 9, 0));
+        x.cut(0);
+        check.argument("9, with the blocks cut", () -> x.row(4, 9, 0));
+        x.thread(1);
+        check.equal("9 of another thread", x.row(4, 9, 0), 1);
+        x.thread(0);
+        check.argument("0", () -> x.row(4, 0, 0));
+        check.equal("the latest", x.row(4, MOST, 0), 1);
+        check.argument("one below the latest", () -> x.row(4, MOST - 1, 0));
+        check.argument("the least", () -> x.row(4, LEAST, 0));
+        check.equal("the latest again", x.row(4, MOST, 0), 2);
     }
 
-    private static void nothingGoesOverToTheNextBlock(Check check) {
-        TracePacks x = new TracePacks();
-        int from = 0;
-        for (int i = 0; i < 2; i++) {
-            x.row(1, 10, 0);
-            x.row(2, 3, 0);
-            x.row(3, 4, 5);
-            x.row(0, 1, 0);
-            x.mark();
-            int[] bytes = Blocks.block(0, 0, 4, 32, 20, 65, 6, 120, 8, 0, 0, 0, 5, 3);
-            check.bytes("block " + i, x, from, bytes);
-            from += bytes.length;
+    private void bs() {
+        check.about("or b not 0 (but of a STORE)");
+        for (int kind = 0; kind <= 4; kind++) {
+            for (int b : new int[] {1, -1, MOST, LEAST}) {
+                if (kind != 3) {
+                    refused(kind, 1, b);
+                } else {
+                    check.equal("a STORE's", new TracePacks().row(3, 1, b), 1);
+                }
+            }
         }
+    }
+
+    /** A block with refused rows between is as if they had not come. */
+    private void refusedOnesDoNothing() {
+        int[][] wrong = {{-1, 0, 0}, {5, 0, 0}, {0, 2, 0}, {0, 1, 1}, {1, 60, 1}, {2, 70, 1}, {4, -1, 0}, {4, 80, 1}};
+        int[][] right = {{0, 1, 0}, {0, 0, 0}, {1, 6, 0}, {2, 7, 0}, {3, 8, 1}, {3, 8, 1}, {4, 9, 0}, {2, 14, 0}};
+        TracePacks x = new TracePacks();
+        for (int i = 0; i < right.length; i++) {
+            for (int[] w : wrong) {
+                check.argument("row " + w[0] + " ahead of row " + i, () -> x.row(w[0], w[1], w[2]));
+            }
+            check.equal("row " + i, x.row(right[i][0], right[i][1], right[i][2]), i + 1);
+        }
+        x.thread(1);
+        for (int[] w : wrong) {
+            check.argument("row " + w[0] + " of another thread", () -> x.row(w[0], w[1], w[2]));
+        }
+        check.counts("open still", x, 0, 8, 8, 0);
+        x.mark();
+        check.bytes("the block", x, 0, Blocks.block(0, 0, 8,
+            6, 32, 12, 65, 14, 120, 16, 0, 0, 0, 1, 112, 0, 128, 9, 64));
     }
 }
