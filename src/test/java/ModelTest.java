@@ -1,10 +1,13 @@
 import java.util.Arrays;
 import java.util.Random;
 
-/** Runs of up to 512 calls by chance, from fixed seeds, on an object and on the model: all answers are the same. */
+/** Runs of 512 calls by chance, from fixed seeds, on an object and on the model: all answers are the same. */
 public final class ModelTest {
     private static final int RUNS = 4000;
+    /** What an object answers after these is free, so that none is made. */
     private static final int CALLS = 512;
+    private static final int FEWEST_BY_CHANCE = 100;
+    private static final int MOST_BY_CHANCE = 460;
     private static final int[] EDGES = {0, 1, -1, 2, 63, 64, -64, -65, 125, 126, 127, 128, 255, 256, 16383, 16384,
         Integer.MAX_VALUE, Integer.MIN_VALUE, 0x7d7e7d7e, 1 << 30};
 
@@ -30,8 +33,8 @@ public final class ModelTest {
             ModelTest test = new ModelTest(run);
             test.go();
             wrong += test.wrong ? 1 : 0;
-            kept += test.x.count(7);
-            broken += test.x.count(6);
+            kept += test.model.count(7);
+            broken += test.model.count(6);
         }
         if (kept == 0 || broken == 0) {
             System.out.println("the runs read nothing, or nothing broken");
@@ -44,7 +47,8 @@ public final class ModelTest {
 
     private void go() {
         int style = run % 4;
-        while (calls < CALLS && !wrong) {
+        int byChance = FEWEST_BY_CHANCE + random.nextInt(MOST_BY_CHANCE - FEWEST_BY_CHANCE);
+        while (calls < byChance && !wrong) {
             int dice = random.nextInt(100);
             if (dice < 60) {
                 if (style == 0) {
@@ -79,26 +83,21 @@ public final class ModelTest {
                 same("count", random.nextInt(11) - 1);
             }
         }
-        lookAtAll();
+        lookAtWhatStands();
     }
 
-    /** Beyond the 512 calls, so that a run is looked at as a whole; none of these calls can change the pack. */
-    private void lookAtAll() {
+    /** With the calls that are left: first what says the most by one call, then bytes and rows from anywhere. */
+    private void lookAtWhatStands() {
         same("choose", 31, 15);
         same("read", 0);
-        for (int i = 0; i < x.count(0) && !wrong; i++) {
-            same("byteAt", i);
-        }
-        for (int k = 0; k < x.count(7) && !wrong; k++) {
-            for (int what = 0; what < 6; what++) {
-                same("kept", k, what);
-            }
-            if (k % 16 == 0) {
-                same("merged", k);
-            }
-        }
         for (int what = -1; what < 10; what++) {
             same("count", what);
+        }
+        while (calls < CALLS && !wrong) {
+            same("byteAt", place());
+            int k = keptPlace();
+            same("kept", k, random.nextInt(6));
+            same("merged", k);
         }
     }
 
@@ -122,7 +121,7 @@ public final class ModelTest {
 
     private void rowsOfOneKind() {
         int kind = random.nextInt(5);
-        for (int i = random.nextInt(60); i >= 0 && calls < CALLS; i--) {
+        for (int i = random.nextInt(60); i >= 0; i--) {
             oneRow(kind);
         }
     }
@@ -164,9 +163,7 @@ public final class ModelTest {
         int blockTime = random.nextInt(20) == 0 ? edge() : random.nextInt(300);
         int itsThread = random.nextInt(40) == 0 ? random.nextInt(6) : random.nextInt(4);
         for (int b : Blocks.block(itsThread, blockTime, told & 255, Arrays.copyOf(bytes, length))) {
-            if (calls < CALLS) {
-                same("put", b);
-            }
+            same("put", b);
         }
     }
 
@@ -181,6 +178,9 @@ public final class ModelTest {
     }
 
     private void same(String name, int... v) {
+        if (calls == CALLS) {
+            return;
+        }
         calls++;
         String got = answer(() -> ofObject(name, v));
         String want = answer(() -> ofModel(name, v));
