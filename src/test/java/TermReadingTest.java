@@ -469,5 +469,18 @@ public final class TermReadingTest {
         TracePacks z = Blocks.packOf(Blocks.joined(Blocks.block(0, 0, 1, 104, 0, 0, 0, 7), Blocks.block(0, 0, 1, 96)));
         check.equal("a value for another block of the thread", z.read(0), 1);
         check.equal("is not there", z.count(6), 1);
+        rowsBeforeAreNotCounted();
+    }
+
+    /** They would have the rows they tell with those of the block before, or with the byte that tells how many. */
+    private void rowsBeforeAreNotCounted() {
+        int[] oneRow = Blocks.block(0, 0, 1, 3);
+        int[][] wrong = {Blocks.block(0, 0, 2, 3), Blocks.block(0, 0, 3, 3), Blocks.block(4, 0, 2, 3),
+            Blocks.block(4, 0, 3, 3), Blocks.block(0, 1 << 31, 3, 3)};
+        for (int i = 0; i < wrong.length; i++) {
+            TracePacks x = Blocks.packOf(Blocks.joined(oneRow, wrong[i]));
+            check.equal("wrong block " + i + " behind a right one: rows", x.read(0), 1);
+            check.equal("wrong block " + i + " behind a right one: broken ones", x.count(6), 1);
+        }
     }
 }
